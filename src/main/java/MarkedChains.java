@@ -1195,7 +1195,8 @@ public final class MarkedChains {
 
         /** The least one in place of a NUMBER that is not as told, so that callers need not ask. */
         private int readNumber(int least, int most) {
-            if (!hasNumber()) {
+            skipBlanks();
+            if (at >= length || !isDigit(bytes[at])) {
                 blame(at, CANNOT_STAND);
             }
             began = at;

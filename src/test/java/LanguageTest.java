@@ -16,9 +16,7 @@ public final class LanguageTest {
     public static void main(String[] args) throws Exception {
         Check check = new Check("LanguageTest");
         String source = Files.readString(Path.of(args[0]));
-        for (int i = 0; i < source.length(); i++) {
-            check.holds("sign " + i + " is below 128", source.charAt(i) < 128);
-        }
+        check.holds("all signs are below 128", source.chars().allMatch(c -> c < 128));
         String code = withoutCommentsAndTexts(source);
         for (String pattern : FORBIDDEN) {
             Matcher found = Pattern.compile(pattern).matcher(code);
@@ -29,7 +27,22 @@ public final class LanguageTest {
             check.holds("import " + imports.group(1), imports.group(1).equals("java.util.Arrays"));
         }
         looksAtMethods(check, code);
+        looksAtNewObjects(check, code);
         check.finish();
+    }
+
+    /** Objects are made for fields and in the constructor alone, so that no call fills the room. */
+    private static void looksAtNewObjects(Check check, String code) {
+        int made = 0;
+        for (String line : code.split("\n")) {
+            if (line.matches(".*\\bnew\\b.*")) {
+                made++;
+                boolean field = line.matches(" +(private )?final [\\w\\[\\]]+ \\w+ = new .*");
+                boolean inConstructor = line.matches(" +(past|shelves)\\[i\\] = new Play\\(\\);");
+                check.holds("made in a constructor:" + line, field || inConstructor);
+            }
+        }
+        check.holds("objects were found", made > 10);
     }
 
     private static void looksAtMethods(Check check, String code) {

@@ -262,7 +262,8 @@ public final class PromisesTest {
         int[][] bad = {{0, 3, 7, 3, 1}, {9, 3, 7, 3, 1}, {1, 8, 7, 3, 1}, {1, -1, 7, 3, 1}, {1, 3, 8, 3, 1},
             {1, 3, -1, 3, 1}, {1, 3, 3, 3, 1}, {1, 3, 7, 4, 1}, {1, 3, 7, -1, 1}, {1, 3, 7, 3, 0}, {1, 3, 7, 3, -1},
             {1, 3, 7, 3, 9}, {1, 3, 7, 3, 11}, {1, 3, 7, 3, 10}, {1, 3, 7, 3, 102}, {1, 3, 7, 3, 121},
-            {1, 3, 7, 3, 187654321}, {1, 3, 7, 3, 123456789}, {1, 3, 7, 3, MAX}, {1, 3, 7, 3, MIN}};
+            {1, 3, 7, 3, 187654321}, {1, 3, 7, 3, 100000012}, {1, 3, 7, 3, 1000000012},
+            {1, 3, 7, 3, 123456789}, {1, 3, 7, 3, MAX}, {1, 3, 7, 3, MIN}};
         for (int[] b : bad) {
             due("7: plan of " + b[4], x.plan(b[0], b[1], b[2], b[3], b[4]), -1);
         }
@@ -761,6 +762,8 @@ public final class PromisesTest {
         // Three marks in round 1: by 2 it counts still, by 3 no more.
         x = Check.of("play 6;rounds 5;liar 0 3 4;default 1;letter 1 3 1 2:0 3 4");
         due("30: by two", x.slack(1, 3, 1), 2);
+        MarkedChains y = Check.of("play 8;rounds 8;default 1;liar 0 1 2 3 4 5 6;letter 1 0 7 2:0 1 2 3 4 5 6");
+        due("30: seven marks, by six", y.slack(1, 0, 7), 6);
         x.late(1, 3, 1, 5);
         due("30: it counts for nothing now", x.slack(1, 3, 1), -2);
         thirteen();
@@ -941,6 +944,8 @@ public final class PromisesTest {
         x.drop(1, 0);
         x.late(1, 0, 2, 7);
         due("39: the fifth and the sixth", x.heal(), 48);
+        x = Check.of("play 7;value 1;omit 1 0 1;omit 1 0 2;omit 1 0 3;omit 1 0 4;omit 1 0 5;omit 1 0 6");
+        due("39: all six", x.heal(), 63);
         // All honest parties, not the sound ones alone.
         x = Check.of("play 4;value 1;rounds 1;omit 1 0 3");
         due("39: 3 is not sound", x.alike(), 1);
