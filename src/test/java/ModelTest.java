@@ -112,6 +112,10 @@ public final class ModelTest {
                     m.feed(five[0], five[1], five[2], five[3], five[4]));
         }
         answer("end", x.end(text.length()), m.end(text.length()));
+        if (random.nextInt(8) == 0) {
+            int n = random.nextInt(text.length() + 1);
+            answer("end(" + n + ")", x.end(n), m.end(n));
+        }
         int told = x.tell();
         check.due("run " + run + " tell of '" + text + "'", told, m.tell());
         seen.computeIfAbsent("tell", n -> new TreeSet<>()).add((long) told);

@@ -22,6 +22,7 @@ public final class PromisesTest {
         feedAndEnd();
         tellPlays();
         tellFaults();
+        tellPrefixes();
         tellLimits();
         settle();
         lies();
@@ -199,6 +200,17 @@ public final class PromisesTest {
         wrong("play 3;late 1 0 1 1;late 1 0 1", 29, 4);
     }
 
+    /** Bytes behind the end are no part of the text, though they were on the tape. */
+    private static void tellPrefixes() {
+        String text = "play 4;liar 3;letter 1 3 0 1:3 2;omit 1 0 1;late 2 0 1 1";
+        for (int n = 0; n < text.length(); n++) {
+            MarkedChains whole = new MarkedChains();
+            Check.put(whole, text);
+            due("3: end", whole.end(n), n);
+            due("4: only the first " + n, whole.tell(), Check.tell(new MarkedChains(), text.substring(0, n)));
+        }
+    }
+
     private static String many(String head, int count, String part) {
         StringBuilder text = new StringBuilder(head);
         for (int i = 0; i < count; i++) {
@@ -262,7 +274,7 @@ public final class PromisesTest {
         int[][] bad = {{0, 3, 7, 3, 1}, {9, 3, 7, 3, 1}, {1, 8, 7, 3, 1}, {1, -1, 7, 3, 1}, {1, 3, 8, 3, 1},
             {1, 3, -1, 3, 1}, {1, 3, 3, 3, 1}, {1, 3, 7, 4, 1}, {1, 3, 7, -1, 1}, {1, 3, 7, 3, 0}, {1, 3, 7, 3, -1},
             {1, 3, 7, 3, 9}, {1, 3, 7, 3, 11}, {1, 3, 7, 3, 10}, {1, 3, 7, 3, 102}, {1, 3, 7, 3, 121},
-            {1, 3, 7, 3, 187654321}, {1, 3, 7, 3, 100000012}, {1, 3, 7, 3, 1000000012},
+            {1, 3, 7, 3, 187654321}, {1, 3, 7, 3, 100000001}, {1, 3, 7, 3, 100000012}, {1, 3, 7, 3, 1000000012},
             {1, 3, 7, 3, 123456789}, {1, 3, 7, 3, MAX}, {1, 3, 7, 3, MIN}};
         for (int[] b : bad) {
             due("7: plan of " + b[4], x.plan(b[0], b[1], b[2], b[3], b[4]), -1);
