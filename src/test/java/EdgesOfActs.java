@@ -310,6 +310,8 @@ final class EdgesOfActs {
                 int round = 1 + i + (other == kind && i >= k ? 1 : 0);
                 e.due("the round of the " + i + "-th", other == 0 ? x.planned(i, 0) : x.fault(other, i, 0), round);
                 e.due("its last number", other == 0 ? x.planned(i, 3) + 1 : x.fault(other, i, 3), other == 1 ? 0 : round);
+                e.due("from", other == 0 ? x.planned(i, 1) : x.fault(other, i, 1), (round - 1) % 3);
+                e.due("its marks", other == 0 ? x.planned(i, 4) : 0, other > 0 ? 0 : round == 4 ? 12 : round);
             }
         }
         e.due("it is an act", x.count(10), 1);
@@ -388,6 +390,11 @@ final class EdgesOfActs {
         x.drop(1, 5);
         e.due("one went", x.omit(8, 1, 2), 11);
         e.way(x, 1, 11, 8, 1, 2, 0);
+        x.drop(1, 11);
+        e.due("the last one went", x.omit(8, 1, 2), 11);
+        x.undo();
+        x.undo();
+        e.due("it is one again", x.omit(8, 1, 2), -2);
     }
 
     private void late() {
@@ -443,6 +450,11 @@ final class EdgesOfActs {
         x.drop(2, 5);
         e.due("one went", x.late(8, 1, 2, 7), 11);
         e.way(x, 2, 11, 8, 1, 2, 7);
+        x.drop(2, 11);
+        e.due("the last one went", x.late(8, 1, 2, 6), 11);
+        x.undo();
+        x.undo();
+        e.due("there is one again", x.late(8, 1, 2, 6), -2);
     }
 
     private void attack() {
@@ -536,6 +548,7 @@ final class EdgesOfActs {
         x = Check.of("play 4;value 2;rounds 2;liar 3");
         e.due("the sender and a liar", x.trade(0, 3), 4);
         e.due("what it sends", x.letter(0, 1), 3);
+        tradeFull();
         e.says(12, "NONE, and nothing happens, without these (unlike ones)");
         for (int p = 0; p < 5; p++) {
             int party = p;
@@ -548,6 +561,24 @@ final class EdgesOfActs {
         e.wraps("trade", IN_RICH, (y, a) -> y.trade(a[0], a[1]), 4, 0);
         e.refused("without a play", IN_NEW, y -> y.trade(0, 1), -1);
         e.refused("8 of 8", () -> full("play 8"), y -> y.trade(8, 7), -1);
+    }
+
+    private void tradeFull() {
+        MarkedChains x = Check.of(Edges.many("play 3", 16, "letter 1 0 2 0:0 2"));
+        e.due("16 letters", x.trade(0, 2), 3);
+        for (int k = 0; k < 16; k++) {
+            e.plan(x, k, 1, 2, 0, 0, 31);
+        }
+        x = Check.of(Edges.many("play 3", 12, "omit #"));
+        e.due("12 omits", x.trade(2, 0), 3);
+        for (int k = 0; k < 12; k++) {
+            e.way(x, 1, k, 1 + k % 8, k < 8 ? 2 : 1, 0, 0);
+        }
+        x = Check.of(Edges.many("play 3", 12, "late # 7"));
+        e.due("12 lates", x.trade(2, 0), 3);
+        for (int k = 0; k < 12; k++) {
+            e.way(x, 2, k, 1 + k % 8, k < 8 ? 2 : 1, 0, 7);
+        }
     }
 
     /** An ACT, and UNDONE: all is as it was. */

@@ -363,6 +363,10 @@ final class EdgesOfLetters {
         // Both the letter of round 1, late by 3, and those that were relayed have the sender's mark.
         x.late(1, 0, 3, 3);
         e.due("the first of them", x.known(0, 1), 3);
+        x = Check.of("play 4;sender 1;value 2;rounds 1;liar 3");
+        e.due("of the letter that came", x.known(1, 2), 2);
+        e.due("of no other one", x.known(0, 2), -2);
+        e.due("of no other one", x.known(2, 2), -2);
         e.says(25, "(.. it may be the one behind the last)");
         for (int rounds = 1; rounds <= 8; rounds++) {
             for (int by = 1; by <= 7; by++) {
@@ -537,6 +541,8 @@ final class EdgesOfLetters {
         // Three from 0 to 2, two from 2 to 0 and one more from 0 to 1: not five of both ways.
         x = Check.of("play 3;liar 0 2;letter 1 0 2 0:0;letter 1 0 2 0:0;letter 1 0 2 0:0;letter 1 2 0 0:0;letter 1 2 0 0:0;letter 1 0 1 0:0");
         e.due("of one way", x.load(-1, 0), 3);
+        x = Check.of("play 3;liar 0 2;letter 1 2 0 0:0;letter 1 2 0 0:0;letter 1 0 1 0:0");
+        e.due("to the first", x.load(-1, 0), 2);
         e.says(37, "NONE without these (unlike ones)");
         x = Check.of(PARTED);
         e.due("from 5", x.load(5, 0), -1);

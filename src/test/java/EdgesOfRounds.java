@@ -28,6 +28,7 @@ final class EdgesOfRounds {
         t.decisions();
         t.sound();
         t.fullest();
+        t.playedAnew();
     }
 
     private void sentThenRead() {
@@ -347,9 +348,42 @@ final class EdgesOfRounds {
         }
         e.due("all", Check.of("play 8").sound(), 255);
         e.due("none", Check.of("play 4;omit 1 0 1;late 1 2 3 1").sound(), 0);
+        e.due("of two omits", Check.of("play 8;omit 1 0 1;omit 1 2 3").sound(), 0xf0);
+        e.due("of two lates", Check.of("play 8;late 1 0 1 1;late 1 2 3 1").sound(), 0xf0);
         MarkedChains x = Check.of("play 4;omit 1 0 1");
         x.drop(1, 0);
         e.due("again, as it goes", x.sound(), 15);
+    }
+
+    /** A PLAY that is changed is played as if it had been told so. */
+    private void playedAnew() {
+        e.says(0, "The SET of an honest SENDER has its VALUE ahead of all ROUNDS, of others nothing: of the PLAY as it is");
+        MarkedChains x = Check.of("play 4;value 3;rounds 2");
+        e.due("2 took it of 0", x.path(2, 3, -1), 1);
+        x.settle(0, 2);
+        e.due("2 has it as sender", x.path(2, 3, -1), 0);
+        e.due("of a letter without marks", x.extracted(2, 3, 2), 0);
+        e.due("of none", x.extracted(2, 3, 1), -1);
+        e.due("0 has nothing ahead", x.set(0, 0), 0);
+        e.due("0 takes it in round 1", x.extracted(0, 3, 0), 1);
+        e.due("0 to 1 was extracted, 2 to 0 is", x.letter(0, 6), 2);
+        x.lies(0);
+        e.due("to a liar", x.letter(0, 6), 0);
+        x.settle(1, 0);
+        e.due("another value", x.set(2, 0), 1);
+        e.due("the one before it is gone", x.extracted(2, 3, 0), -2);
+        x.lies(2);
+        e.due("no letters", x.letter(-1, 0), 0);
+        e.due("nothing", x.set(1, 2), 0);
+        e.due("nothing", x.extracted(3, 0, 0), -2);
+        e.due("not known", x.known(1, 0), -2);
+        e.due("not forged", x.forged(0), 0);
+        x = Check.of("play 3;rounds 2;liar 0;letter 2 0 1 1:0;letter 2 0 1 2:0");
+        e.due("two with too few marks", x.count(13), 2);
+        e.due("two values", x.caught(1), 2);
+        x.drop(0, 1);
+        e.due("one", x.count(13), 1);
+        e.due("one value", x.caught(1), -2);
     }
 
     /** As many LETTERS as there can be: seven honest ones relay four VALUES each, and 16 are PLANNED. */
@@ -376,6 +410,15 @@ final class EdgesOfRounds {
         e.due("load(7, 6)", x.load(7, 6), 4);
         for (int p = 1; p < 8; p++) {
             e.due("all values", x.set(p, 8), 15);
+            e.due("the sender's mark on two values", x.caught(p), p == 1 ? 1 : 2);
         }
+        e.due("too few marks", x.count(13), 0);
+        e.due("all decide the default as they would of nothing", x.crucial(1, -1), 0);
+        e.due("the most of any two", x.load(-1, 0), 16);
+        e.due("of the greatest", x.bits(-1), 14);
+        x.lies(0);
+        e.due("0 is honest: its own value, and what seven relay of it", x.letter(-1, 0), 7 + 49);
+        e.due("nothing is left of the letters behind these", x.count(13), 0);
+        e.due("nor of their values", x.caught(1), -2);
     }
 }

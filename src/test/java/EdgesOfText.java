@@ -121,6 +121,7 @@ final class EdgesOfText {
         e.due("all", Check.of("play 8;liar 0 1 2 3 4 5 6 7").count(6), 255);
         e.due("again in one row", Check.of("play 8;liar 5 5 5").count(6), 32);
         e.due("again in another row", Check.of("play 8;liar 5;liar 1 5").count(6), 34);
+        e.due("another one in another row", Check.of("play 8;liar 5;liar 1").count(6), 34);
         e.due("more than eight told", Check.of("play 3;liar 0 1 2 0 1 2 0 1 2 0").count(6), 7);
         e.fault("play 3;liar", 11, 1);
         e.fault("play 3;liar;", 11, 1);
@@ -243,6 +244,15 @@ final class EdgesOfText {
         e.fault("play 3;latr 1 0 1 1", 7, 1);
         e.fault("play 3;sendes 1", 7, 1);
         e.fault("play 3;cuts 1", 7, 1);
+        String[] words = {"sender 1", "value 1", "rounds 1", "default 1", "cut 1", "liar 1", "letter 1 0 1 0:0",
+            "omit 1 0 1", "late 1 0 1 1"};
+        for (String word : words) {
+            e.told("play 3;" + word, 3);
+            e.fault("play 3;x" + word.substring(1), 7, 1);
+            e.fault("play 3;x" + word, 7, 1);
+            e.fault("play 3;" + word.substring(1), 7, 1);
+        }
+        e.fault("qlay 3", 0, 1);
         e.fault("plax 3", 0, 1);
         e.fault("play 3 0", 7, 1);
         e.fault("play 30", 5, 2);
@@ -461,6 +471,11 @@ final class EdgesOfText {
         e.fault(filled("play 3", ";"), 400, 1);
         e.fault(filled("play 3", "3"), 399, 1);
         e.fault(filled("play 3;cut", "5"), 399, 2);
+        e.fault(filled("play 3;cut", ""), 400, 1);
+        e.fault(filled("play 3;letter 1 0 1", "0"), 400, 1);
+        e.fault(filled("play 3;letter 1 0 1 0", ":"), 400, 1);
+        e.fault(filled("play 3;late 1 0", "1"), 400, 1);
+        e.fault(filled("play 3;", "c"), 399, 1);
         e.fault(filled("play 3;letter 1 0 1 0:0", "0"), 399, 2);
         e.told("play 3;liar 0 " + "1 ".repeat(193), 3);
         e.told("play 3  " + ";cut 4  ".repeat(49), 3);
@@ -534,6 +549,21 @@ final class EdgesOfText {
         e.due("tell", x.tell(), -3);
         e.due("of 400", withBytes(400).end(400), 400);
         e.due("of 400", withBytes(400).end(399), 399);
+        e.says(3, "The TAPE has its first n bytes alone: those behind them are no part of the text");
+        String text = "play 4;cut 3;letter 1 3 0 1:3 2;omit 1 0 1;late 2 0 1 1;liar 2 3";
+        for (int n = 0; n <= text.length(); n++) {
+            MarkedChains whole = new MarkedChains();
+            Check.put(whole, text);
+            whole.end(n);
+            e.due("the first " + n, whole.tell(), Check.tell(new MarkedChains(), text.substring(0, n)));
+        }
+        Check.put(x, "play 3;letter 1 0 1 0:0");
+        x.end(21);
+        e.due("the sign that was there", x.tell(), -2 - (8 * 21 + 1));
+        Check.put(x, "play 3;cut 4");
+        x.end(6);
+        e.due("the part that was there", x.tell(), 3);
+        e.due("is not told", x.count(5), 2);
         e.says(3, "NONE, and nothing happens, if it has not so many, or n is below 0");
         int[] sizes = {0, 1, 20, 399, 400};
         for (int n : sizes) {
@@ -554,6 +584,15 @@ final class EdgesOfText {
         e.counts(x, 0, 3, 0, 0, 1, 0, 2, 0, 0, 0, 0, 0, 0, 0);
         e.due("its letters", x.letter(-1, 0), 2);
         e.due("the tape is empty: nothing to tell", x.tell(), -3);
+        String ways = "play 3;liar 1;letter 1 1 0 1:1;omit 1 0 1;omit 2 0 1;late 1 0 1 1;late 2 0 1 1";
+        for (int times = 0; times < 3; times++) {
+            e.due("the same once more", Check.tell(x, ways), 3);
+            e.counts(x, 6, 2, 1, 2, 2);
+        }
+        e.due("with a fault at its end", Check.tell(x, ways + ";liar 2;cut 9"), -2 - (8 * (ways.length() + 12) + 2));
+        e.due("nothing of that is left", Check.tell(x, "play 3;omit 2 0 1;late 2 0 1 1"), 3);
+        e.counts(x, 6, 0, 0, 1, 1);
+        e.due("nor of this", Check.tell(x, "play 3"), 3);
         e.counts(x, 0, 3, 0, 0, 1, 0, 2, 0, 0, 0, 0, 0, 0, 0);
         e.says(4, "(nothing can be UNDONE; SHELVES stay)");
         x = Check.of("play 4;liar 3;letter 1 3 0 1:3");

@@ -18,6 +18,7 @@ final class EdgesOfTogether {
         t.sound();
         t.parted();
         t.partedFirstSix();
+        t.withFaults();
         t.slack();
         t.slackInPlace();
         t.slackRefused();
@@ -113,10 +114,30 @@ final class EdgesOfTogether {
         String rest = ";letter 1 0 1 1:0;letter 1 0 2 1:0";
         e.due("the sixth, for what stays", Check.of("play 3;liar 0" + idle.repeat(5) + ";letter 1 0 2 2:0" + rest).parted(), 32);
         e.due("none of six", Check.of("play 3;liar 0" + idle.repeat(6) + rest).parted(), -2);
+        StringBuilder all = new StringBuilder("play8;liar0;cut1;rounds2");
+        for (int i = 0; i < 12; i++) {
+            all.append(";letter1 0 ").append(1 + i % 6).append(i < 6 ? " 1:0" : " 2:0");
+        }
+        // 2 stays with 1 to 6; each that gets 1 too relays that. Only if all six do, 7 has 1 alone.
+        e.due("all six", Check.of(all.toString()).parted(), 63);
         MarkedChains x = Check.of(PARTED);
         x.parted();
         e.due("all stay as they are", x.count(7), 2);
         e.due("and are sent", x.sent(-1), 6);
+    }
+
+    /** 1, who is not sound, would tell 2 and 3 in round 2 what a liar tells 2; but it does not come to 1. */
+    private void withFaults() {
+        String idle = ";letter 8 0 1 0:0";
+        String text = "play 5;liar 0 4;rounds 2;letter 2 4 2 1:0 4" + idle.repeat(5) + ";letter 1 0 1 1:0";
+        e.says(29, "by which not all SOUND PARTIES have one DECISION: OMITS and LATES as they are");
+        e.due("without", Check.of(text + ";omit 8 0 1").parted(), -2);
+        e.due("with an omit", Check.of(text + ";omit 1 0 1").parted(), 1);
+        e.due("with a late", Check.of(text + ";late 1 0 1 7").parted(), 1);
+        e.says(32, "(all else as it is)");
+        e.due("without", Check.of(text + ";omit 8 0 1").least(), 1);
+        e.due("with an omit", Check.of(text + ";omit 1 0 1").least(), 3);
+        e.due("with a late", Check.of(text + ";late 1 0 1 7").least(), 3);
     }
 
     private void slack() {
@@ -293,6 +314,11 @@ final class EdgesOfTogether {
                 int last = rounds < r ? 0 : Math.min(rounds, r + 1);
                 e.due("of " + r + " in " + rounds, Check.of(text + ";rounds " + rounds).calm(0), last);
             }
+        }
+        for (int p = 0; p < 4; p++) {
+            String alone = "play 5;sender 4;liar 4;letter 1 4 " + p + " 1:4";
+            e.due("of " + p + " alone", Check.of(alone).calm(0), 1);
+            e.due("it differs", Check.of(alone).calm(1), -2);
         }
         e.due("all lie", Check.of("play 3;liar 0 1 2;rounds 3;letter 1 0 1 1:0").calm(0), 0);
         e.due("one that is not sound", Check.of("play 3;value 1;late 8 0 1 1;late 8 0 2 1").calm(0), 1);
