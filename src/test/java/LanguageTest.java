@@ -5,6 +5,7 @@ import java.util.regex.Pattern;
 
 /** Rules of ../shared/LANGUAGE.md that can be seen in the program's text. */
 public final class LanguageTest {
+    private static final Path PROGRAM = Path.of("src/main/java/MarkedChains.java");
     private static final String[] FORBIDDEN = {
         "\\bthrow\\b", "\\bthrows\\b", "\\btry\\b", "\\bcatch\\b", "\\bsynchronized\\b", "\\bassert\\b",
         "->", "::", "Exact\\b", "\\bpackage\\b", "\\bprotected\\b", "\\bhashCode\\b", "\\btoString\\b",
@@ -15,7 +16,7 @@ public final class LanguageTest {
 
     public static void main(String[] args) throws Exception {
         Check check = new Check("LanguageTest");
-        String source = Files.readString(Path.of(args[0]));
+        String source = Files.readString(PROGRAM);
         check.holds("all signs are below 128", source.chars().allMatch(c -> c < 128));
         String code = withoutCommentsAndTexts(source);
         for (String pattern : FORBIDDEN) {
