@@ -113,14 +113,19 @@ public final class ReadmeTest {
         check.holds(".ci/run can be run", Files.isExecutable(Path.of(".ci/run")));
         check.due("commands", commands.size(), 3);
         String one = outputOf(commands.get(1));
-        check.holds("PromisesTest ran: " + one, one.matches("PromisesTest: [1-9]\\d* answers, 0 wrong\\n"));
+        check.holds("PromisesTest ran: " + one,
+                Pattern.compile("(?m)^PromisesTest: [1-9]\\d* answers, 0 wrong$").matcher(one).find());
         String shared = outputOf(commands.get(2));
-        check.holds("MarkedChainsRuns ran: " + shared, shared.equals("all answers are as due\n"));
+        for (String name : namesIn("../shared/tests", "*.java")) {
+            check.holds(name + " ran: " + shared,
+                    Pattern.compile("(?m)^\\+ java .* " + name + "$").matcher(shared).find());
+        }
     }
 
+    /** What a command prints, and, behind '+', each step of it as it is run. */
     private String outputOf(String command) throws Exception {
         String tidy = "trap 'rm -rf \"$out\"' EXIT\n" + command;
-        Process process = new ProcessBuilder("sh", "-e", "-c", tidy).redirectErrorStream(true).start();
+        Process process = new ProcessBuilder("sh", "-ex", "-c", tidy).redirectErrorStream(true).start();
         String output = new String(process.getInputStream().readAllBytes());
         check.due("exit of " + command, process.waitFor(), 0);
         return output;
@@ -132,13 +137,19 @@ public final class ReadmeTest {
         while (names.find()) {
             named.add(names.group(1));
         }
-        Set<String> there = new TreeSet<>();
-        try (DirectoryStream<Path> files = Files.newDirectoryStream(Path.of("src/test/java"), "*Test.java")) {
+        Set<String> there = namesIn("src/test/java", "*Test.java");
+        check.holds("the page names " + there + ": " + named, named.equals(there));
+    }
+
+    private Set<String> namesIn(String folder, String pattern) throws IOException {
+        Set<String> names = new TreeSet<>();
+        try (DirectoryStream<Path> files = Files.newDirectoryStream(Path.of(folder), pattern)) {
             for (Path file : files) {
-                there.add(file.getFileName().toString().replace(".java", ""));
+                names.add(file.getFileName().toString().replace(".java", ""));
             }
         }
-        check.holds("the page names " + there + ": " + named, named.equals(there));
+        check.holds("there are tests in " + folder, !names.isEmpty());
+        return names;
     }
 
     private static void delete(Path folder) throws IOException {
